@@ -146,9 +146,9 @@ public final class NeedleBoard {
     public int count(int what) {
         switch (what) {
             case 0: return made;
-            case 1: return countFine();
-            case 2: return countAtNought();
-            case 3: return countAtLimit();
+            case 1:
+            case 2:
+            case 3: return countNeedles(what);
             case 4: return moves;
             default: return NONE;
         }
@@ -180,30 +180,10 @@ public final class NeedleBoard {
         }
     }
 
-    private int countFine() {
+    private int countNeedles(int what) {
         int found = 0;
         for (Needle needle : needles) {
-            if (needle != null && needle.kind == Kind.FINE) {
-                found++;
-            }
-        }
-        return found;
-    }
-
-    private int countAtNought() {
-        int found = 0;
-        for (Needle needle : needles) {
-            if (needle != null && needle.kind.sizeOf(needle.value) == 0) {
-                found++;
-            }
-        }
-        return found;
-    }
-
-    private int countAtLimit() {
-        int found = 0;
-        for (Needle needle : needles) {
-            if (needle != null && (needle.value == needle.low || needle.value == needle.high)) {
+            if (needle != null && needle.isCounted(what)) {
                 found++;
             }
         }
@@ -257,6 +237,14 @@ public final class NeedleBoard {
 
         long fineValue() {
             return kind == Kind.FINE ? value : Kind.fineFromCoarse(value);
+        }
+
+        boolean isCounted(int what) {
+            switch (what) {
+                case 1: return kind == Kind.FINE;
+                case 2: return kind.sizeOf(value) == Kind.NOUGHT;
+                default: return value == low || value == high;
+            }
         }
 
         private long withinLimits(long number) {

@@ -48,11 +48,9 @@ public final class BackTest {
     }
 
     private static void wrongOnes() {
-        NeedleBoard board = Check.freeFine();
-        board.put(0, Check.fine(4));
-        for (int n : new int[] {-1, 1, 7, 8, Integer.MAX_VALUE}) {
-            CHECK.refused("back(" + n + ")", NoSuchElementException.class, board, () -> {
-                board.back(n);
+        for (int n : new int[] {-1, 2, 7, 8, Integer.MAX_VALUE}) {
+            CHECK.refused("back(" + n + ")", NoSuchElementException.class, x -> {
+                x.back(n);
                 return 0;
             });
         }

@@ -45,22 +45,20 @@ public final class BetweenTest {
     }
 
     private static void wrongOnes() {
-        NeedleBoard board = Check.freeFine();
-        board.needle(false, Check.COARSE_MINUS_INFINITY, Check.COARSE_INFINITY);
         for (int what = -1; what <= 4; what++) {
             int asked = what;
-            CHECK.refused("between(0, 1, " + what + ")", IllegalArgumentException.class, board,
-                    () -> board.between(0, 1, asked));
-            CHECK.refused("between(1, 0, " + what + ")", IllegalArgumentException.class, board,
-                    () -> board.between(1, 0, asked));
-            CHECK.refused("between(0, 2, " + what + ")", NoSuchElementException.class, board,
-                    () -> board.between(0, 2, asked));
-            CHECK.refused("between(-1, 0, " + what + ")", NoSuchElementException.class, board,
-                    () -> board.between(-1, 0, asked));
+            CHECK.refused("between(0, 1, " + what + ")", IllegalArgumentException.class,
+                    x -> x.between(0, 1, asked));
+            CHECK.refused("between(1, 0, " + what + ")", IllegalArgumentException.class,
+                    x -> x.between(1, 0, asked));
+            CHECK.refused("between(0, 2, " + what + ")", NoSuchElementException.class,
+                    x -> x.between(0, 2, asked));
+            CHECK.refused("between(-1, 0, " + what + ")", NoSuchElementException.class,
+                    x -> x.between(-1, 0, asked));
         }
         for (int what : new int[] {-1, 4, Integer.MAX_VALUE, Integer.MIN_VALUE}) {
-            CHECK.refused("between(0, 0, " + what + ")", IllegalArgumentException.class, board,
-                    () -> board.between(0, 0, what));
+            CHECK.refused("between(0, 0, " + what + ")", IllegalArgumentException.class,
+                    x -> x.between(0, 0, what));
         }
     }
 }

@@ -15,8 +15,32 @@ final class Check {
         0x7fc00000L, (int) 0xffc00000, 0x7f800001L, (int) 0xff800001, 0x7fffffffL, -1L, 0xffc00000L, 0x17fc00000L
     };
 
+    interface Maker {
+        NeedleBoard board();
+    }
+
     interface Call {
-        long answer();
+        long on(NeedleBoard board);
+    }
+
+    /** Numbers that look thrown, but are the same in every run of a test. */
+    static final class Sequence {
+        private long seed;
+
+        Sequence(long seed) {
+            this.seed = seed;
+        }
+
+        long next() {
+            seed += 0x9e3779b97f4a7c15L;
+            long mixed = (seed ^ seed >>> 30) * 0xbf58476d1ce4e5b9L;
+            mixed = (mixed ^ mixed >>> 27) * 0x94d049bb133111ebL;
+            return mixed ^ mixed >>> 31;
+        }
+
+        int below(int bound) {
+            return (int) Math.floorMod(next() >> 17, (long) bound);
+        }
     }
 
     private int made;
@@ -48,6 +72,21 @@ final class Check {
 
     static NeedleBoard freeCoarse() {
         return boardWithCoarse(Float.NEGATIVE_INFINITY, Float.POSITIVE_INFINITY);
+    }
+
+    /** A fine needle at 1.5 and a coarse one at -2.5, with all that a refused call could spoil set to something. */
+    static NeedleBoard boardInUse() {
+        NeedleBoard board = freeFine();
+        board.needle(false, COARSE_MINUS_INFINITY, COARSE_INFINITY);
+        board.put(0, fine(-7));
+        board.put(0, fine(1.5));
+        board.put(1, coarse(4));
+        board.put(1, coarse(-2.5f));
+        board.damp(0, fine(0.5));
+        board.damp(1, coarse(0.5f));
+        board.tally(true, 0, 11);
+        board.tally(false, 0, 12);
+        return board;
     }
 
     /** All that a board tells without being changed. */
@@ -88,12 +127,17 @@ final class Check {
         same(what, got ? 1 : 0, 0);
     }
 
-    /** The call throws exactly this, and the board is then as it was. */
-    void refused(String what, Class<? extends RuntimeException> due, NeedleBoard board, Call call) {
+    void refused(String what, Class<? extends RuntimeException> due, Call call) {
+        refused(what, due, Check::boardInUse, call);
+    }
+
+    /** The call throws exactly this, and the board, a fresh one since its calls are numbered, is then as it was. */
+    void refused(String what, Class<? extends RuntimeException> due, Maker maker, Call call) {
+        NeedleBoard board = maker.board();
         String before = stateOf(board);
         String got;
         try {
-            got = "the answer " + call.answer();
+            got = "the answer " + call.on(board);
         } catch (RuntimeException e) {
             got = e.getClass().getName();
         }

@@ -61,9 +61,9 @@ public final class CountTest {
         board.needle(true, 0, 0);
         board.count(4);
         CHECK.same("after the others", board.count(4), 5);
-        CHECK.refused("a put", IllegalArgumentException.class, board, () -> board.put(0, -1));
-        CHECK.refused("a rest", IllegalArgumentException.class, board, () -> board.rest(0, 9));
-        CHECK.refused("a face", java.util.NoSuchElementException.class, board, () -> board.face(0, 9));
+        CHECK.refused("a put", IllegalArgumentException.class, () -> board, x -> x.put(0, -1));
+        CHECK.refused("a rest", IllegalArgumentException.class, () -> board, x -> x.rest(0, 9));
+        CHECK.refused("a face", java.util.NoSuchElementException.class, () -> board, x -> x.face(0, 9));
         CHECK.same("after refused ones", board.count(4), 5);
     }
 

@@ -23,14 +23,14 @@ public final class DampTest {
         check.same("damp is no move", board.count(4), 0);
 
         for (long nan : Check.FINE_NANS) {
-            check.refused("damp(0, " + nan + ")", IllegalArgumentException.class, board, () -> board.damp(0, nan));
+            check.refused("damp(0, " + nan + ")", IllegalArgumentException.class, x -> x.damp(0, nan));
         }
         for (long nan : Check.COARSE_NANS) {
-            check.refused("damp(1, " + nan + ")", IllegalArgumentException.class, board, () -> board.damp(1, nan));
+            check.refused("damp(1, " + nan + ")", IllegalArgumentException.class, x -> x.damp(1, nan));
         }
         for (int n : new int[] {-1, 2, 8}) {
-            check.refused("damp(" + n + ", 0)", NoSuchElementException.class, board, () -> board.damp(n, 0));
-            check.refused("damp(" + n + ", NaN)", NoSuchElementException.class, board, () -> board.damp(n, -1));
+            check.refused("damp(" + n + ", 0)", NoSuchElementException.class, x -> x.damp(n, 0));
+            check.refused("damp(" + n + ", NaN)", NoSuchElementException.class, x -> x.damp(n, -1));
         }
         check.end();
     }

@@ -22,11 +22,11 @@ public final class FaceTest {
         check.same("itself", board.face(0, 0), Check.fine(-1));
         check.same("count 4", board.count(4), 3);
 
-        check.refused("face(0, 2)", NoSuchElementException.class, board, () -> board.face(0, 2));
-        check.refused("face(2, 0)", NoSuchElementException.class, board, () -> board.face(2, 0));
-        check.refused("face(0, -1)", NoSuchElementException.class, board, () -> board.face(0, -1));
-        check.refused("face(-1, 0)", NoSuchElementException.class, board, () -> board.face(-1, 0));
-        check.refused("face(8, 8)", NoSuchElementException.class, board, () -> board.face(8, 8));
+        check.refused("face(0, 2)", NoSuchElementException.class, x -> x.face(0, 2));
+        check.refused("face(2, 0)", NoSuchElementException.class, x -> x.face(2, 0));
+        check.refused("face(0, -1)", NoSuchElementException.class, x -> x.face(0, -1));
+        check.refused("face(-1, 0)", NoSuchElementException.class, x -> x.face(-1, 0));
+        check.refused("face(8, 8)", NoSuchElementException.class, x -> x.face(8, 8));
         check.end();
     }
 

@@ -13,7 +13,7 @@ public final class ModelTest {
     };
 
     private static final Check CHECK = new Check();
-    private static long seed = 20261116;
+    private static final Check.Sequence SEQUENCE = new Check.Sequence(20261116);
 
     private static final class ModelNeedle {
         final boolean fine;
@@ -208,28 +208,30 @@ public final class ModelTest {
         NeedleBoard board = new NeedleBoard();
         Model model = new Model();
         for (int i = 0; i < CALLS; i++) {
-            int call = i < 3 ? 0 : below(30);
-            boolean flag = below(2) == 0;
-            int n = below(40) == 0 ? below(12) - 2 : below(Math.max(1, model.needles.size()));
-            int m = below(40) == 0 ? below(12) - 2 : below(Math.max(1, model.needles.size()));
-            int what = below(12) - 1;
+            int call = i < 3 ? 0 : SEQUENCE.below(30);
+            boolean flag = SEQUENCE.below(2) == 0;
+            int n = someNeedle(model);
+            int m = someNeedle(model);
+            int what = SEQUENCE.below(12) - 1;
             boolean fine = call == 0 ? flag : n < 0 || n >= model.needles.size() || model.needles.get(n).fine;
             long a = someBits(fine);
             long b = someBits(fine);
-            if (call == 0 && below(2) == 0) {
+            if (call == 0 && SEQUENCE.below(2) == 0) {
                 a = fine ? Check.MINUS_INFINITY : Check.COARSE_MINUS_INFINITY;
                 b = fine ? Check.INFINITY : Check.COARSE_INFINITY;
             }
-            if (below(4) == 0 && n >= 0 && n < model.needles.size()) {
+            if (SEQUENCE.below(4) == 0 && n >= 0 && n < model.needles.size()) {
                 // Numbers next to the value are where sums cancel.
-                a = board.read(n, 0) + below(5) - 2 ^ (below(2) == 0 ? 0 : fine ? Long.MIN_VALUE : 1L << 31);
+                ModelNeedle needle = model.needles.get(n);
+                long sign = fine ? Long.MIN_VALUE : 1L << 31;
+                a = needle.bits(needle.value) + SEQUENCE.below(5) - 2 ^ (SEQUENCE.below(2) == 0 ? 0 : sign);
             }
             long low = a;
             long high = b;
             String told = "run " + number + " call " + i + ": kind " + call + " " + flag + " " + n + " " + m + " "
                     + what + " " + a + " " + b;
-            CHECK.same(told, answer(() -> real(board, call, flag, n, m, what, low, high)),
-                    answer(() -> modelled(model, call, flag, n, m, what, low, high)));
+            CHECK.same(told, answer(board, x -> real(x, call, flag, n, m, what, low, high)),
+                    answer(board, x -> modelled(model, call, flag, n, m, what, low, high)));
         }
     }
 
@@ -269,36 +271,28 @@ public final class ModelTest {
         }
     }
 
-    private static String answer(Check.Call call) {
+    private static String answer(NeedleBoard board, Check.Call call) {
         try {
-            return Long.toString(call.answer());
+            return Long.toString(call.on(board));
         } catch (RuntimeException e) {
             return e.getClass().getName();
         }
     }
 
+    private static int someNeedle(Model model) {
+        return SEQUENCE.below(40) == 0 ? SEQUENCE.below(12) - 2 : SEQUENCE.below(Math.max(1, model.needles.size()));
+    }
+
     private static long someBits(boolean fine) {
-        switch (below(4)) {
-            case 0: return bitsOf(fine, CHOSEN[below(CHOSEN.length)]);
-            case 1: return bitsOf(fine, (below(4001) - 2000) / 8.0);
-            case 2: return bitsOf(fine, next() * Math.pow(2, below(8) * -10));
-            default: return next();
+        switch (SEQUENCE.below(4)) {
+            case 0: return bitsOf(fine, CHOSEN[SEQUENCE.below(CHOSEN.length)]);
+            case 1: return bitsOf(fine, (SEQUENCE.below(4001) - 2000) / 8.0);
+            case 2: return bitsOf(fine, SEQUENCE.next() * Math.pow(2, SEQUENCE.below(8) * -10));
+            default: return SEQUENCE.next();
         }
     }
 
     private static long bitsOf(boolean fine, double number) {
-        return fine ? Check.fine(number) : Check.coarse((float) number) & 0xffffffffL | (long) below(3) << 32;
-    }
-
-    private static int below(int bound) {
-        return (int) Math.floorMod(next() >> 17, (long) bound);
-    }
-
-    // A sequence written out here, so that every run of the test makes the same calls.
-    private static long next() {
-        seed += 0x9e3779b97f4a7c15L;
-        long mixed = (seed ^ seed >>> 30) * 0xbf58476d1ce4e5b9L;
-        mixed = (mixed ^ mixed >>> 27) * 0x94d049bb133111ebL;
-        return mixed ^ mixed >>> 31;
+        return fine ? Check.fine(number) : Check.coarse((float) number) & 0xffffffffL | (long) SEQUENCE.below(3) << 32;
     }
 }

@@ -57,31 +57,31 @@ public final class NeedleTest {
     }
 
     private static void noNumbers() {
-        NeedleBoard board = Check.freeFine();
         for (long nan : Check.FINE_NANS) {
-            refused(board, true, nan, Check.INFINITY);
-            refused(board, true, Check.MINUS_INFINITY, nan);
-            refused(board, true, nan, nan);
+            refused(true, nan, Check.INFINITY);
+            refused(true, Check.MINUS_INFINITY, nan);
+            refused(true, nan, nan);
         }
         for (long nan : Check.COARSE_NANS) {
-            refused(board, false, nan, Check.COARSE_INFINITY);
-            refused(board, false, Check.COARSE_MINUS_INFINITY, nan);
-            refused(board, false, nan, nan);
+            refused(false, nan, Check.COARSE_INFINITY);
+            refused(false, Check.COARSE_MINUS_INFINITY, nan);
+            refused(false, nan, nan);
         }
-        CHECK.same("fine NaN bits may be coarse numbers", board.needle(false, 0x7ff8000000000000L, 0x7ff8000000000000L), 1);
+        long nanForFineAlone = 0x7ff8000000000000L;
+        CHECK.same("fine NaN bits as a coarse 0.0",
+                new NeedleBoard().needle(false, nanForFineAlone, nanForFineAlone), 0);
     }
 
     private static void limitsInWrongOrder() {
-        NeedleBoard board = new NeedleBoard();
-        refused(board, true, Check.NOUGHT, Check.MINUS_NOUGHT);
-        refused(board, false, 0, Integer.MIN_VALUE);
-        refused(board, true, Check.fine(1), Check.fine(0.5));
-        refused(board, true, Check.fine(-1), Check.fine(-2));
-        refused(board, true, Check.fine(Double.MIN_VALUE), 0);
-        refused(board, false, Check.coarse(1), Check.coarse(-1));
-        refused(board, false, Check.coarse(-1), Check.coarse(-2));
-        refused(board, true, Check.INFINITY, Check.MINUS_INFINITY);
-        CHECK.same("after all that the first", board.needle(true, 0, 0), 0);
+        refused(true, Check.NOUGHT, Check.MINUS_NOUGHT);
+        refused(false, 0, Integer.MIN_VALUE);
+        refused(true, Check.fine(1), Check.fine(0.5));
+        refused(true, Check.fine(-1), Check.fine(-2));
+        refused(true, Check.fine(Double.MIN_VALUE), 0);
+        refused(false, Check.coarse(1), Check.coarse(-1));
+        refused(false, Check.coarse(-1), Check.coarse(-2));
+        refused(true, Check.INFINITY, Check.MINUS_INFINITY);
+        refused(false, Check.COARSE_INFINITY, Check.COARSE_MINUS_INFINITY);
     }
 
     private static void fullBoard() {
@@ -89,15 +89,26 @@ public final class NeedleTest {
         for (int n = 0; n < 8; n++) {
             CHECK.same("needle " + n, board.needle(n % 2 == 0, 0, 0), n);
         }
-        CHECK.refused("a ninth", IllegalStateException.class, board, () -> board.needle(true, 0, 0));
-        CHECK.refused("a ninth coarse one", IllegalStateException.class, board, () -> board.needle(false, 0, 0));
-        refused(board, true, Check.FINE_NANS[0], 0);
-        refused(board, true, Check.NOUGHT, Check.MINUS_NOUGHT);
         CHECK.same("count 0", board.count(0), 8);
+        CHECK.refused("a ninth", IllegalStateException.class, NeedleTest::filledBoard, x -> x.needle(true, 0, 0));
+        CHECK.refused("a coarse ninth", IllegalStateException.class, NeedleTest::filledBoard,
+                x -> x.needle(false, 0, 0));
+        CHECK.refused("a ninth with NaN", IllegalArgumentException.class, NeedleTest::filledBoard,
+                x -> x.needle(true, 0, Check.FINE_NANS[0]));
+        CHECK.refused("a ninth in wrong order", IllegalArgumentException.class, NeedleTest::filledBoard,
+                x -> x.needle(true, Check.NOUGHT, Check.MINUS_NOUGHT));
     }
 
-    private static void refused(NeedleBoard board, boolean fine, long low, long high) {
-        CHECK.refused("needle(" + fine + ", " + low + ", " + high + ")", IllegalArgumentException.class, board,
-                () -> board.needle(fine, low, high));
+    private static NeedleBoard filledBoard() {
+        NeedleBoard board = new NeedleBoard();
+        for (int n = 0; n < 8; n++) {
+            board.needle(n < 3, 0, 0);
+        }
+        return board;
+    }
+
+    private static void refused(boolean fine, long low, long high) {
+        CHECK.refused("needle(" + fine + ", " + low + ", " + high + ")", IllegalArgumentException.class,
+                x -> x.needle(fine, low, high));
     }
 }

@@ -11,7 +11,7 @@ public final class NewObjectTest {
         check.same("the narrow tally", board.tally(false, 1, Integer.MIN_VALUE), 0);
         check.same("the wide tally from above", new NeedleBoard().tally(true, 2, Long.MAX_VALUE), 0);
         check.same("the narrow tally from above", new NeedleBoard().tally(false, 2, Integer.MAX_VALUE), 0);
-        check.refused("read(0, 0)", java.util.NoSuchElementException.class, board, () -> board.read(0, 0));
+        check.refused("read(0, 0)", java.util.NoSuchElementException.class, NeedleBoard::new, x -> x.read(0, 0));
 
         NeedleBoard other = new NeedleBoard();
         other.needle(true, Check.NOUGHT, Check.NOUGHT);

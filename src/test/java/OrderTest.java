@@ -41,9 +41,9 @@ public final class OrderTest {
         }
         NeedleBoard board = newBoard();
         check.same("an order is no move", board.order(0, 1) + board.count(4), 0);
-        for (int n : new int[] {-1, 4, 8, Integer.MIN_VALUE}) {
-            check.refused("order(0, " + n + ")", NoSuchElementException.class, board, () -> board.order(0, n));
-            check.refused("order(" + n + ", 0)", NoSuchElementException.class, board, () -> board.order(n, 0));
+        for (int n : new int[] {-1, 2, 8, Integer.MIN_VALUE}) {
+            check.refused("order(0, " + n + ")", NoSuchElementException.class, x -> x.order(0, n));
+            check.refused("order(" + n + ", 0)", NoSuchElementException.class, x -> x.order(n, 0));
         }
         check.end();
     }

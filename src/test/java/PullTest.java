@@ -20,6 +20,8 @@ public final class PullTest {
     private static void steps() {
         fine(1, 0.75, 2, 1.75, false);
         fine(1, 0.75, -2, 0.25, false);
+        fine(3, 0.5, 1, 2.5, false);
+        fine(-3, 0.5, -1, -2.5, false);
         fine(1, 1, 2, 2, true);
         fine(1, 1.5, 2, 2, true);
         fine(1, 1, -0.5, 0.0, false);
@@ -90,6 +92,7 @@ public final class PullTest {
 
     private static void coarseOnes() {
         coarse(1, 0.75f, 2, 1.75f, false);
+        coarse(3, 0.5f, 1, 2.5f, false);
         coarse(1, 1, 2, 2, true);
         coarse(0.1f, 0.2f, 0.3f, 0.1f + 0.2f, 0.1f + 0.2f == 0.3f);
         coarse(16777216f, 1, 3e7f, 16777216f, false);
@@ -101,17 +104,15 @@ public final class PullTest {
     }
 
     private static void wrongOnes() {
-        NeedleBoard board = Check.freeFine();
-        board.needle(false, Check.COARSE_MINUS_INFINITY, Check.COARSE_INFINITY);
         for (long nan : Check.FINE_NANS) {
-            CHECK.refused("pull(0, " + nan + ")", IllegalArgumentException.class, board, () -> pulled(board, 0, nan));
+            CHECK.refused("pull(0, " + nan + ")", IllegalArgumentException.class, x -> pulled(x, 0, nan));
         }
         for (long nan : Check.COARSE_NANS) {
-            CHECK.refused("pull(1, " + nan + ")", IllegalArgumentException.class, board, () -> pulled(board, 1, nan));
+            CHECK.refused("pull(1, " + nan + ")", IllegalArgumentException.class, x -> pulled(x, 1, nan));
         }
         for (int n : new int[] {-1, 2, 8}) {
-            CHECK.refused("pull(" + n + ", 0)", NoSuchElementException.class, board, () -> pulled(board, n, 0));
-            CHECK.refused("pull(" + n + ", NaN)", NoSuchElementException.class, board, () -> pulled(board, n, -1));
+            CHECK.refused("pull(" + n + ", 0)", NoSuchElementException.class, x -> pulled(x, n, 0));
+            CHECK.refused("pull(" + n + ", NaN)", NoSuchElementException.class, x -> pulled(x, n, -1));
         }
     }
 

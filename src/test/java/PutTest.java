@@ -63,17 +63,15 @@ public final class PutTest {
     }
 
     private static void wrongOnes() {
-        NeedleBoard board = Check.freeFine();
-        board.needle(false, Check.COARSE_MINUS_INFINITY, Check.COARSE_INFINITY);
         for (long nan : Check.FINE_NANS) {
-            CHECK.refused("put(0, " + nan + ")", IllegalArgumentException.class, board, () -> board.put(0, nan));
+            CHECK.refused("put(0, " + nan + ")", IllegalArgumentException.class, x -> x.put(0, nan));
         }
         for (long nan : Check.COARSE_NANS) {
-            CHECK.refused("put(1, " + nan + ")", IllegalArgumentException.class, board, () -> board.put(1, nan));
+            CHECK.refused("put(1, " + nan + ")", IllegalArgumentException.class, x -> x.put(1, nan));
         }
         for (int n : new int[] {-1, 2, 7, 8, Integer.MAX_VALUE, Integer.MIN_VALUE}) {
-            CHECK.refused("put(" + n + ", 0)", NoSuchElementException.class, board, () -> board.put(n, 0));
-            CHECK.refused("put(" + n + ", NaN)", NoSuchElementException.class, board, () -> board.put(n, -1));
+            CHECK.refused("put(" + n + ", 0)", NoSuchElementException.class, x -> x.put(n, 0));
+            CHECK.refused("put(" + n + ", NaN)", NoSuchElementException.class, x -> x.put(n, -1));
         }
     }
 }

@@ -70,12 +70,11 @@ public final class RestTest {
     }
 
     private static void wrongOnes() {
-        NeedleBoard board = Check.boardWithFine(0.5, 0.5);
         for (int way : new int[] {-1, 3, Integer.MAX_VALUE, Integer.MIN_VALUE}) {
-            CHECK.refused("rest(0, " + way + ")", IllegalArgumentException.class, board, () -> board.rest(0, way));
-            CHECK.refused("rest(1, " + way + ")", NoSuchElementException.class, board, () -> board.rest(1, way));
+            CHECK.refused("rest(0, " + way + ")", IllegalArgumentException.class, x -> x.rest(0, way));
+            CHECK.refused("rest(2, " + way + ")", NoSuchElementException.class, x -> x.rest(2, way));
         }
-        CHECK.refused("rest(-1, 0)", NoSuchElementException.class, board, () -> board.rest(-1, 0));
-        CHECK.refused("rest(8, 0)", NoSuchElementException.class, board, () -> board.rest(8, 0));
+        CHECK.refused("rest(-1, 0)", NoSuchElementException.class, x -> x.rest(-1, 0));
+        CHECK.refused("rest(8, 0)", NoSuchElementException.class, x -> x.rest(8, 0));
     }
 }

@@ -3,7 +3,7 @@ public final class SumTest {
     private static final int BOARDS = 6000;
     private static final int SUMS = 200;
 
-    private static long seed = 77;
+    private static final Check.Sequence SEQUENCE = new Check.Sequence(77);
 
     public static void main(String[] args) {
         Check check = new Check();
@@ -11,8 +11,8 @@ public final class SumTest {
             NeedleBoard fine = Check.freeFine();
             NeedleBoard coarse = Check.freeCoarse();
             for (int k = 0; k < SUMS; k++) {
-                fineSum(check, fine, next(), next(), next());
-                coarseSum(check, coarse, (int) next(), (int) next(), next());
+                fineSum(check, fine, SEQUENCE.next(), SEQUENCE.next(), SEQUENCE.next());
+                coarseSum(check, coarse, (int) SEQUENCE.next(), (int) SEQUENCE.next(), SEQUENCE.next());
             }
         }
         check.end();
@@ -43,12 +43,5 @@ public final class SumTest {
     // Fractions with many noughts at their end are those whose sums lie half way.
     private static long thinned(long choice, int bits) {
         return (choice >>> 32) % 2 == 0 ? -1L : -1L << (choice >>> 40) % bits;
-    }
-
-    private static long next() {
-        seed += 0x9e3779b97f4a7c15L;
-        long mixed = (seed ^ seed >>> 30) * 0xbf58476d1ce4e5b9L;
-        mixed = (mixed ^ mixed >>> 27) * 0x94d049bb133111ebL;
-        return mixed ^ mixed >>> 31;
     }
 }

@@ -57,14 +57,11 @@ public final class TallyTest {
     }
 
     private static void wrongOnes() {
-        NeedleBoard board = new NeedleBoard();
-        board.tally(true, 0, 11);
-        board.tally(false, 0, 12);
         for (int how : new int[] {-1, 5, Integer.MAX_VALUE, Integer.MIN_VALUE}) {
-            CHECK.refused("tally(true, " + how + ", 1)", IllegalArgumentException.class, board,
-                    () -> board.tally(true, how, 1));
-            CHECK.refused("tally(false, " + how + ", 1)", IllegalArgumentException.class, board,
-                    () -> board.tally(false, how, 1));
+            CHECK.refused("tally(true, " + how + ", 1)", IllegalArgumentException.class,
+                    x -> x.tally(true, how, 1));
+            CHECK.refused("tally(false, " + how + ", 1)", IllegalArgumentException.class,
+                    x -> x.tally(false, how, 1));
         }
     }
 }

@@ -40,7 +40,7 @@ public final class TurnTest {
             double sum = number + other;
             String call = number + " turned by " + other;
             if (Double.isNaN(sum)) {
-                CHECK.refused(call, IllegalStateException.class, board, () -> board.turn(0, Check.fine(other)));
+                CHECK.refused(call, IllegalStateException.class, () -> board, x -> x.turn(0, Check.fine(other)));
             } else {
                 CHECK.same(call, board.turn(0, Check.fine(other)), Check.fine(sum));
                 CHECK.same("the value then", board.read(0, 0), Check.fine(sum));
@@ -55,7 +55,7 @@ public final class TurnTest {
             float sum = number + other;
             String call = number + "f turned by " + other;
             if (Float.isNaN(sum)) {
-                CHECK.refused(call, IllegalStateException.class, board, () -> board.turn(0, Check.coarse(other)));
+                CHECK.refused(call, IllegalStateException.class, () -> board, x -> x.turn(0, Check.coarse(other)));
             } else {
                 long bits = Check.coarse(other) ^ 0x4321000000000000L;
                 CHECK.same(call, board.turn(0, bits), Check.coarse(sum));
@@ -79,23 +79,15 @@ public final class TurnTest {
     }
 
     private static void wrongOnes() {
-        NeedleBoard board = Check.freeFine();
-        board.needle(false, Check.COARSE_MINUS_INFINITY, Check.COARSE_INFINITY);
-        board.put(0, Check.INFINITY);
-        board.put(1, Check.COARSE_MINUS_INFINITY);
-        CHECK.refused("turn back from the infinity", IllegalStateException.class, board,
-                () -> board.turn(0, Check.MINUS_INFINITY));
-        CHECK.refused("turn back from the coarse infinity", IllegalStateException.class, board,
-                () -> board.turn(1, Check.COARSE_INFINITY));
         for (long nan : Check.FINE_NANS) {
-            CHECK.refused("turn(0, " + nan + ")", IllegalArgumentException.class, board, () -> board.turn(0, nan));
+            CHECK.refused("turn(0, " + nan + ")", IllegalArgumentException.class, x -> x.turn(0, nan));
         }
         for (long nan : Check.COARSE_NANS) {
-            CHECK.refused("turn(1, " + nan + ")", IllegalArgumentException.class, board, () -> board.turn(1, nan));
+            CHECK.refused("turn(1, " + nan + ")", IllegalArgumentException.class, x -> x.turn(1, nan));
         }
         for (int n : new int[] {-1, 2, 8, Integer.MIN_VALUE}) {
-            CHECK.refused("turn(" + n + ", 0)", NoSuchElementException.class, board, () -> board.turn(n, 0));
-            CHECK.refused("turn(" + n + ", NaN)", NoSuchElementException.class, board, () -> board.turn(n, -1));
+            CHECK.refused("turn(" + n + ", 0)", NoSuchElementException.class, x -> x.turn(n, 0));
+            CHECK.refused("turn(" + n + ", NaN)", NoSuchElementException.class, x -> x.turn(n, -1));
         }
     }
 }
