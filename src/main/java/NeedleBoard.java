@@ -258,8 +258,8 @@ public final class NeedleBoard {
      * long, so that a number of either kind has the negative side just where its bits are below 0.
      */
     private enum Kind {
-        FINE(52, 1023, Long.MIN_VALUE),
-        COARSE(23, 127, Integer.MIN_VALUE);
+        FINE(52, 1023, 0x8000000000000000L),
+        COARSE(23, 127, 0xffffffff80000000L);
 
         static final long NOUGHT = 0L;
         static final int DOWN = 0;
