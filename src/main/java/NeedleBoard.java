@@ -460,7 +460,7 @@ public final class NeedleBoard {
         }
 
         private static boolean growsBy(int way, long number) {
-            return way == DOWN ? number < 0 : number >= 0;
+            return way == UP ? number >= 0 : number < 0;
         }
     }
 }
