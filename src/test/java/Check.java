@@ -19,6 +19,10 @@ final class Check {
         NeedleBoard board();
     }
 
+    interface KindTest {
+        void of(boolean fine);
+    }
+
     interface Call {
         long on(NeedleBoard board);
     }
@@ -45,6 +49,8 @@ final class Check {
 
     private int made;
     private int wrong;
+    private String sentence = "";
+    private int told;
 
     static long fine(double number) {
         return Double.doubleToLongBits(number);
@@ -63,6 +69,54 @@ final class Check {
     static NeedleBoard boardWithCoarse(float low, float high) {
         NeedleBoard board = new NeedleBoard();
         board.needle(false, coarse(low), coarse(high));
+        return board;
+    }
+
+    /** The bits of a number of either kind. */
+    static long bits(boolean fine, double number) {
+        return fine ? fine(number) : coarse((float) number);
+    }
+
+    static long[] nans(boolean fine) {
+        return fine ? FINE_NANS : COARSE_NANS;
+    }
+
+    static double least(boolean fine) {
+        return fine ? Double.MIN_VALUE : Float.MIN_VALUE;
+    }
+
+    static double most(boolean fine) {
+        return fine ? Double.MAX_VALUE : Float.MAX_VALUE;
+    }
+
+    static double nextUp(boolean fine, double number) {
+        return fine ? Math.nextUp(number) : Math.nextUp((float) number);
+    }
+
+    static double nextDown(boolean fine, double number) {
+        return -nextUp(fine, -number);
+    }
+
+    static NeedleBoard boardWith(boolean fine, double low, double high) {
+        return fine ? boardWithFine(low, high) : boardWithCoarse((float) low, (float) high);
+    }
+
+    static NeedleBoard free(boolean fine) {
+        return fine ? freeFine() : freeCoarse();
+    }
+
+    /** One needle of that kind, without limits, that has been put to a number. */
+    static NeedleBoard freeAt(boolean fine, double number) {
+        NeedleBoard board = free(fine);
+        board.put(0, bits(fine, number));
+        return board;
+    }
+
+    static NeedleBoard fullBoard() {
+        NeedleBoard board = new NeedleBoard();
+        for (int n = 0; n < 8; n++) {
+            board.needle(n < 3, 0, 0);
+        }
         return board;
     }
 
@@ -103,6 +157,28 @@ final class Check {
         state.append(board.tally(true, 1, Long.MIN_VALUE)).append(' ');
         state.append(board.tally(false, 1, Integer.MIN_VALUE));
         return state.toString();
+    }
+
+    /** A test of one sentence of the document; whatever it throws is told, and the others are run all the same. */
+    void sentence(String text, Runnable test) {
+        sentence = text;
+        told = 0;
+        int madeBefore = made;
+        try {
+            test.run();
+        } catch (RuntimeException e) {
+            tell("threw " + e);
+        }
+        if (made == madeBefore) {
+            tell("nothing was checked");
+        }
+        sentence = "";
+    }
+
+    /** The same with fine needles, and then with coarse ones. */
+    void eachKind(String text, KindTest test) {
+        sentence(text + " - FINE", () -> test.of(true));
+        sentence(text + " - COARSE", () -> test.of(false));
     }
 
     void same(String what, long got, long due) {
@@ -154,8 +230,9 @@ final class Check {
 
     private void tell(String text) {
         wrong++;
-        if (wrong <= 20) {
-            System.out.println(text);
+        told++;
+        if (told <= 20) {
+            System.out.println(sentence.isEmpty() ? text : "[" + sentence + "] " + text);
         }
     }
 }

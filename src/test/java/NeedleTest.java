@@ -90,21 +90,13 @@ public final class NeedleTest {
             CHECK.same("needle " + n, board.needle(n % 2 == 0, 0, 0), n);
         }
         CHECK.same("count 0", board.count(0), 8);
-        CHECK.refused("a ninth", IllegalStateException.class, NeedleTest::filledBoard, x -> x.needle(true, 0, 0));
-        CHECK.refused("a coarse ninth", IllegalStateException.class, NeedleTest::filledBoard,
+        CHECK.refused("a ninth", IllegalStateException.class, Check::fullBoard, x -> x.needle(true, 0, 0));
+        CHECK.refused("a coarse ninth", IllegalStateException.class, Check::fullBoard,
                 x -> x.needle(false, 0, 0));
-        CHECK.refused("a ninth with NaN", IllegalArgumentException.class, NeedleTest::filledBoard,
+        CHECK.refused("a ninth with NaN", IllegalArgumentException.class, Check::fullBoard,
                 x -> x.needle(true, 0, Check.FINE_NANS[0]));
-        CHECK.refused("a ninth in wrong order", IllegalArgumentException.class, NeedleTest::filledBoard,
+        CHECK.refused("a ninth in wrong order", IllegalArgumentException.class, Check::fullBoard,
                 x -> x.needle(true, Check.NOUGHT, Check.MINUS_NOUGHT));
-    }
-
-    private static NeedleBoard filledBoard() {
-        NeedleBoard board = new NeedleBoard();
-        for (int n = 0; n < 8; n++) {
-            board.needle(n < 3, 0, 0);
-        }
-        return board;
     }
 
     private static void refused(boolean fine, long low, long high) {
