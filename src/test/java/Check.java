@@ -112,6 +112,14 @@ final class Check {
         return board;
     }
 
+    /** Two such needles. */
+    static NeedleBoard freePair(boolean fine, double one, double other) {
+        NeedleBoard board = freeAt(fine, one);
+        board.needle(fine, bits(fine, Double.NEGATIVE_INFINITY), bits(fine, Double.POSITIVE_INFINITY));
+        board.put(1, bits(fine, other));
+        return board;
+    }
+
     static NeedleBoard fullBoard() {
         NeedleBoard board = new NeedleBoard();
         for (int n = 0; n < 8; n++) {

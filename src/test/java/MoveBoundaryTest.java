@@ -106,15 +106,8 @@ public final class MoveBoundaryTest {
         }
     }
 
-    private static NeedleBoard pair(boolean fine, double one, double other) {
-        NeedleBoard board = Check.freeAt(fine, one);
-        board.needle(fine, Check.bits(fine, -INF), Check.bits(fine, INF));
-        board.put(1, Check.bits(fine, other));
-        return board;
-    }
-
     private static void faces(boolean fine, double one, double other, double due) {
-        NeedleBoard board = pair(fine, one, other);
+        NeedleBoard board = Check.freePair(fine, one, other);
         CHECK.same(one + " facing as " + other, board.face(0, 1), Check.bits(fine, due));
         CHECK.same("the value then", board.read(0, 0), Check.bits(fine, due));
         CHECK.same("the other then", board.read(1, 0), Check.bits(fine, other));

@@ -62,15 +62,8 @@ public final class TellBoundaryTest {
         }
     }
 
-    private static NeedleBoard pair(boolean fine, double one, double other) {
-        NeedleBoard board = Check.freeAt(fine, one);
-        board.needle(fine, Check.bits(fine, -INF), Check.bits(fine, INF));
-        board.put(1, Check.bits(fine, other));
-        return board;
-    }
-
     private static void between(boolean fine, double one, double other, int what, double due) {
-        NeedleBoard board = pair(fine, one, other);
+        NeedleBoard board = Check.freePair(fine, one, other);
         String call = "of " + one + " and " + other + " what " + what;
         CHECK.same(call, board.between(0, 1, what), Check.bits(fine, due));
         CHECK.same(call + " turned round", board.between(1, 0, what), Check.bits(fine, due));
@@ -109,7 +102,7 @@ public final class TellBoundaryTest {
         for (int what : new int[] {-1, 4, FAR[0], FAR[1]}) {
             CHECK.refused("between what " + what, IllegalArgumentException.class, x -> x.between(n, n, what));
             CHECK.refused("between what " + what + " of two", IllegalArgumentException.class,
-                    () -> pair(fine, 1, 2), x -> x.between(0, 1, what));
+                    () -> Check.freePair(fine, 1, 2), x -> x.between(0, 1, what));
         }
     }
 
@@ -118,7 +111,7 @@ public final class TellBoundaryTest {
             Check.least(fine), 1, Check.nextUp(fine, 1), Check.most(fine), INF};
         for (int i = 0; i < ordered.length; i++) {
             for (int k = 0; k < ordered.length; k++) {
-                CHECK.same(ordered[i] + " to " + ordered[k], pair(fine, ordered[i], ordered[k]).order(0, 1),
+                CHECK.same(ordered[i] + " to " + ordered[k], Check.freePair(fine, ordered[i], ordered[k]).order(0, 1),
                         Integer.compare(i, k));
             }
         }
@@ -206,7 +199,7 @@ public final class TellBoundaryTest {
         CHECK.same("-0.0", Check.freeAt(fine, -0.0).count(2), 1);
         CHECK.same("the least number", Check.freeAt(fine, Check.least(fine)).count(2), 0);
         CHECK.same("the least negative number", Check.freeAt(fine, -Check.least(fine)).count(2), 0);
-        CHECK.same("both noughts", pair(fine, 0.0, -0.0).count(2), 2);
+        CHECK.same("both noughts", Check.freePair(fine, 0.0, -0.0).count(2), 2);
     }
 
     private static void limitsByBits(boolean fine) {
