@@ -33,8 +33,16 @@ public final class PublicFaceTest {
         "public int NeedleBoard.count(int)"
     };
 
+    private static final Check CHECK = new Check();
+
     public static void main(String[] args) {
-        Check check = new Check();
+        members();
+        names();
+        classes();
+        CHECK.end();
+    }
+
+    private static void members() {
         Set<String> seen = new TreeSet<>();
         for (Field field : NeedleBoard.class.getDeclaredFields()) {
             addVisible(seen, field.getModifiers(), field.toString());
@@ -47,16 +55,29 @@ public final class PublicFaceTest {
                 addVisible(seen, method.getModifiers(), method.toString());
             }
         }
-        check.same("the face", seen.toString(), new TreeSet<>(Set.of(FACE)).toString());
-        check.yes("the class is public and final",
+        CHECK.same("the face", seen.toString(), new TreeSet<>(Set.of(FACE)).toString());
+    }
+
+    private static void names() {
+        Set<String> publicNames = new TreeSet<>();
+        Set<String> privateNames = new TreeSet<>();
+        for (Method method : NeedleBoard.class.getDeclaredMethods()) {
+            Set<String> names = Modifier.isPublic(method.getModifiers()) ? publicNames : privateNames;
+            names.add(method.getName());
+        }
+        privateNames.retainAll(publicNames);
+        CHECK.same("names of private methods that public ones bear", privateNames.toString(), "[]");
+    }
+
+    private static void classes() {
+        CHECK.yes("the class is public and final",
                 (NeedleBoard.class.getModifiers() & (Modifier.PUBLIC | Modifier.FINAL))
                         == (Modifier.PUBLIC | Modifier.FINAL));
         for (Class<?> inside : NeedleBoard.class.getDeclaredClasses()) {
             int modifiers = inside.getModifiers();
-            check.no(inside + " can be seen", Modifier.isPublic(modifiers) || Modifier.isProtected(modifiers));
-            check.yes(inside + " is static", Modifier.isStatic(modifiers));
+            CHECK.no(inside + " can be seen", Modifier.isPublic(modifiers) || Modifier.isProtected(modifiers));
+            CHECK.yes(inside + " is static", Modifier.isStatic(modifiers));
         }
-        check.end();
     }
 
     private static void addVisible(Set<String> seen, int modifiers, String member) {
